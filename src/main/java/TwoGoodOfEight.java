@@ -530,7 +530,8 @@ public final class TwoGoodOfEight {
     }
 
     private int nextEvening(int kind, int rule) {
-        spendEvening(kind);
+        prepareEvening(kind);
+        evening.spend(now.trulyGood);
         evening.layBack(rule);
         evening.spend(now.trulyGood);
         return evening.answer();
@@ -989,8 +990,7 @@ public final class TwoGoodOfEight {
         /** The batteries whose digits stand from a place on, as bits: 8 and 9 too, which are none. */
         int setFrom(int place) {
             int set = 0;
-            int digits = digitsFrom(place, MOST_BATTERIES);
-            for (int i = 0; i < digits; i++) {
+            for (int i = 0; i < MOST_BATTERIES && digit(place + i) >= 0; i++) {
                 set |= 1 << digit(place + i);
             }
             return set;
@@ -1004,7 +1004,8 @@ public final class TwoGoodOfEight {
         /** Of each set, what all worlds weigh together that hold all of it. */
         final long[] holding = new long[MOST_WORLDS];
         final int[] mayWorlds = new int[MOST_WORLDS];
-        final int[] leftBy = new int[MOST_BATTERIES + 1];
+        /** Of each answer, how many worlds that may be it leaves. */
+        final int[] leftBy = new int[MOST_NEEDS + 1];
         final int[] orderSets = new int[MOST_IN_ORDER];
         final long[] orderWeights = new long[MOST_IN_ORDER];
         int orderCount = 0;
