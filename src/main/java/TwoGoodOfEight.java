@@ -313,7 +313,8 @@ public final class TwoGoodOfEight {
         if (noKind(kind)) {
             return refuse(OTHER);
         }
-        spendEvening(kind);
+        prepareEvening(kind);
+        evening.spend(now.trulyGood);
         return evening.answer();
     }
 
@@ -359,17 +360,19 @@ public final class TwoGoodOfEight {
         if (noKind(kind) || noRule(rule)) {
             return refuse(OTHER);
         }
-        return nextEvening(kind, rule);
+        prepareEvening(kind);
+        return nextEvening(rule);
     }
 
     public int bestRule(int kind) {
         if (noKind(kind)) {
             return refuse(OTHER);
         }
+        prepareEvening(kind);
         int best = 0;
         int fewest = NO_BOUND;
         for (int rule = 0; rule < RULES; rule++) {
-            int made = nextEvening(kind, rule);
+            int made = nextEvening(rule);
             int counted = made == NONE ? NEVER_LIT_COUNTS : made;
             if (counted < fewest) {
                 fewest = counted;
@@ -383,10 +386,11 @@ public final class TwoGoodOfEight {
         if (noKind(kind) || noRule(rule)) {
             return refuse(OTHER);
         }
-        spendEvening(kind);
+        prepareEvening(kind);
+        evening.spend(now.trulyGood);
         int answer = evening.answer();
         evening.layBack(rule);
-        now.layAs(evening.lying);
+        now.lieAs(evening.lying);
         return answer;
     }
 
@@ -524,13 +528,8 @@ public final class TwoGoodOfEight {
         evening.prepare(now, kind, shunned);
     }
 
-    private void spendEvening(int kind) {
-        prepareEvening(kind);
-        evening.spend(now.trulyGood);
-    }
-
-    private int nextEvening(int kind, int rule) {
-        prepareEvening(kind);
+    private int nextEvening(int rule) {
+        evening.lieAs(now.lying);
         evening.spend(now.trulyGood);
         evening.layBack(rule);
         evening.spend(now.trulyGood);
@@ -647,6 +646,12 @@ public final class TwoGoodOfEight {
         }
     }
 
+    private static void copy(int[] from, int[] to) {
+        for (int i = 0; i < from.length; i++) {
+            store(to, i, at(from, i));
+        }
+    }
+
     /** The batteries, how many are good as it is told, the lamp and the book: all that an image holds. */
     private static final class Drawer {
         int batteries = MOST_BATTERIES;
@@ -680,10 +685,9 @@ public final class TwoGoodOfEight {
 
         void become(Drawer other) {
             batteries = other.batteries;
-            for (int i = 0; i < MOST_BATTERIES; i++) {
-                mark(i, at(other.kinds, i), at(other.figures, i));
-            }
-            layAs(other.lying);
+            copy(other.kinds, kinds);
+            copy(other.figures, figures);
+            lieAs(other.lying);
             trulyGood = other.trulyGood;
             g = other.g;
             atLeast = other.atLeast;
@@ -698,10 +702,8 @@ public final class TwoGoodOfEight {
             store(figures, battery, figureNow);
         }
 
-        void layAs(int[] order) {
-            for (int place = 0; place < MOST_BATTERIES; place++) {
-                store(lying, place, at(order, place));
-            }
+        void lieAs(int[] order) {
+            copy(order, lying);
         }
 
         void takeLamp(int kindNow, int needsNow) {
@@ -1301,9 +1303,7 @@ public final class TwoGoodOfEight {
             batteries = drawer.batteries;
             mostFlat = drawer.batteries - drawer.g;
             shunned = surelyFlat;
-            for (int place = 0; place < MOST_BATTERIES; place++) {
-                store(lying, place, at(drawer.lying, place));
-            }
+            lieAs(drawer.lying);
             pairCount = 0;
             switch (kindNow) {
                 case HEAP:
@@ -1318,6 +1318,10 @@ public final class TwoGoodOfEight {
                     pairAll(kindNow == LAST);
                     break;
             }
+        }
+
+        void lieAs(int[] order) {
+            copy(order, lying);
         }
 
         private void addPair(int first, int second) {
