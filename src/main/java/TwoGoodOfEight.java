@@ -261,10 +261,10 @@ public final class TwoGoodOfEight {
             return refuse(OTHER);
         }
         worlds.look(now);
-        if (worlds.mayCount == 0) {
-            return NONE;
+        if (what == 0) {
+            return worlds.split(now);
         }
-        return what == 0 ? worlds.split(now) : worlds.lucky(now.needs);
+        return worlds.mayCount == 0 ? NONE : worlds.lucky(now.needs);
     }
 
     public int worst(int i) {

@@ -367,8 +367,8 @@ final class Plain {
     int best(int what) {
         if (what < 0 || what > 1) return no(-2);
         List<TreeSet<Integer>> worlds = worlds();
-        if (worlds.isEmpty() || needed().isEmpty()) return -9;
         if (what == 1) return lucky(worlds);
+        if (needed().isEmpty()) return -9;
         int best = needed().get(0);
         for (int set : needed()) {
             if (left(worlds, set) < left(worlds, best)) best = set;

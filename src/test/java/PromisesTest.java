@@ -586,11 +586,14 @@ public final class PromisesTest {
         due("best(2)", x.best(2), -2);
         due("best(-1)", x.best(-1), -2);
         told(x, "b101;");
-        due("none, best(0)", x.best(0), -9);
+        due("each leaves 0 where MAY is none, best(0)", x.best(0), 3);
         due("none, best(1)", x.best(1), -9);
         refused(x, 0, 2, 0, 0, 0);
         due("there is none", drawerOf("n3;l04;").best(0), -9);
         due("there is none", drawerOf("n3;l04;").best(1), -9);
+        due("there is none, and MAY is none", drawerOf("n3;g1+;l54;b10;b00;").best(0), -9);
+        due("of three, MAY is none", drawerOf("l03;b1123;b0123;").best(0), 7);
+        due("a CHAIN's, MAY is none", drawerOf("l54;b11;b01;").best(0), 15);
         due("a CHAIN's, of just NEEDS", drawerOf("n6;g3=;l53;").best(0), 7);
         due("LIT in none", drawerOf("n4;g1=;").best(1), 3);
         TwoGoodOfEight glow = drawerOf("n5;g2=;l12;b101;");
