@@ -17,6 +17,7 @@ public final class DrawerEdgesTest {
         faultOfFirstKind();
         faultOfSecondKind();
         allOfItOrNothing();
+        whatIsNotToldStays();
         battery();
         kind();
         truly();
@@ -401,6 +402,35 @@ public final class DrawerEdgesTest {
         says("Promise 3: ROW and IMAGE stay");
         due("ROW", x.count(8), 4);
         due("IMAGE", x.restore(), 2);
+    }
+
+    /** Changed by calls, not by letters, between one text and the next. */
+    private static void changeByCalls(TwoGoodOfEight x) {
+        x.kind(7, 5, 9);
+        x.kind(0, 4, 1);
+        x.truly(0b11100000);
+        x.good(7, 1);
+        x.lamp(1, 3);
+        x.tries(0b11100000);
+        x.tries(0b111);
+        x.put(0, 5);
+    }
+
+    private static void whatIsNotToldStays() {
+        says("Promise 3: what no STATEMENT tells stays as it is");
+        TwoGoodOfEight x = drawerOf("n5;k051;t1;g2=;l23;b1012;n8;");
+        changeByCalls(x);
+        due("k312;", Probe.told(x, "k312;"), 1);
+        TwoGoodOfEight twin = drawerOf("n8;");
+        changeByCalls(twin);
+        twin.kind(3, 1, 2);
+        CHECK.holds("all else", Probe.seen(x).equals(Probe.seen(twin)));
+        says("Promise 3: of a text with FAULT nothing comes later");
+        due("kind 2", Probe.told(x, "k759;t;g0=;l42;b301;n1;"), -2020);
+        due("kind 1", Probe.told(x, "k759;t;g0=;l42;b301;n"), -1021);
+        due("k000;", Probe.told(x, "k000;"), 1);
+        twin.kind(0, 0, 0);
+        CHECK.holds("all else", Probe.seen(x).equals(Probe.seen(twin)));
     }
 
     // ---- Promises 4 to 8

@@ -14,6 +14,7 @@ public final class EveningEdgesTest {
         write();
         knower();
         placesAreTried();
+        oneObjectThroughAll();
         back();
         bestRule();
         put();
@@ -191,6 +192,34 @@ public final class EveningEdgesTest {
         }
     }
 
+    private static void oneObjectThroughAll() {
+        says("Promise 22: eight, two, eight again; many heaps, one heap");
+        TwoGoodOfEight x = Probe.drawerOf("g8=;t07;");
+        int[] many = {7, 7, 28, 7, -9, 28};
+        int[] two = {1, 1, 1, 1, 1, 1};
+        int[] one = {28, 28, 7, 1, 28, 7};
+        for (int kind = 0; kind <= 5; kind++) {
+            x.good(kind == 5 ? 0 : 8, kind == 5 ? 1 : 0);
+            due("seven heaps, trier(" + kind + ")", x.trier(kind), many[kind]);
+        }
+        Probe.told(x, "n2;t01;g2=;");
+        for (int kind = 0; kind <= 5; kind++) {
+            due("two, trier(" + kind + ")", x.trier(kind), two[kind]);
+        }
+        Probe.told(x, "n8;t67;g8=;");
+        x.trier(1);
+        x.good(1, 1);
+        for (int kind = 0; kind <= 5; kind++) {
+            due("one heap, trier(" + kind + ")", x.trier(kind), one[kind]);
+        }
+        for (int g = 0; g <= 1; g++) {
+            x.good(3, 0);
+            due("two heaps", x.trier(1), 12);
+            x.good(g, 1);
+            due("one heap at least", x.trier(1), 28);
+        }
+    }
+
     // ---- Promises 26 and 27
 
     private static void backIs(String text, int kind, int... tries) {
@@ -314,6 +343,12 @@ public final class EveningEdgesTest {
             puts("g0=;", 5, rule, -9, 0, 1, 2, 3, 4, 5, 6, 7);
         }
         puts("g0=;", 5, 5, -9, 7, 6, 5, 4, 3, 2, 1, 0);
+        says("Promise 28: no TRY was made, but another evening ahead");
+        TwoGoodOfEight x = Probe.drawerOf("g0=;t67;");
+        due("trier(0)", x.trier(0), 28);
+        due("put(5, 4)", x.put(5, 4), -9);
+        due("PLACE of 6", x.battery(6, 4), 6);
+        due("PLACE of 0", x.battery(0, 4), 0);
     }
 
     // ---- Promise 32

@@ -21,6 +21,7 @@ public final class WorldsEdgesTest {
         worstOfSeveral();
         order();
         mean();
+        oneObjectThroughAll();
         CHECK.close();
     }
 
@@ -175,6 +176,11 @@ public final class WorldsEdgesTest {
         leavesIs("l24;g0+;", 15, 176);
         leavesIs("l34;g0+;", 15, 128);
         leavesIs("l44;g0+;", 15, 176);
+        says("Promise 16: all left by the greatest that the LAMP tells");
+        leavesIs("g5=;l14;b40123;", 15, 4);
+        leavesIs("g5=;l13;b3012;", 7, 10);
+        leavesIs("g5=;l12;b201;", 3, 20);
+        leavesIs("g5=;l44;b20123;", 15, 52);
         says("Promise 16: one and all of a CHAIN");
         leavesIs("l52;g0+;", 128, 128);
         leavesIs("l52;g0+;", 255, 255);
@@ -368,5 +374,40 @@ public final class WorldsEdgesTest {
         meanIs("n3;g2=;k041;k141;k230;", 86, 83);
         meanIs("g0+;" + ALL_PACKED, 1526808, 1234559);
         meanIs("g0+;" + ALL_RUSTY, 132833368, 14437999);
+    }
+
+    // ---- all of them, of one object
+
+    private static void sameObject(TwoGoodOfEight x, String text, int worlds, int split, int lucky, int[] row, int[] order) {
+        CHECK.holds(text + " is a DRAWER", Probe.told(x, text) > 0);
+        due(text + " may(0)", x.may(0), worlds);
+        due(text + " best(0)", x.best(0), split);
+        due(text + " best(1)", x.best(1), lucky);
+        due(text + " worst(-1)", x.worst(-1), row.length > 0 || worlds == 0 ? row.length : -9);
+        for (int i = 0; i < row.length; i++) {
+            due(text + " worst(" + i + ")", x.worst(i), row[i]);
+        }
+        due(text + " behind the last", x.worst(row.length), -9);
+        for (int i = 0; i < order.length; i++) {
+            due(text + " order(" + i + ")", x.order(i), order[i]);
+        }
+        due(text + " order behind the last", x.order(order.length), -9);
+        due(text + " mean(1) is above none", Math.min(1, x.mean(1)), 1);
+    }
+
+    private static void oneObjectThroughAll() {
+        says("Promises 13 to 21: many, few, none, many again");
+        TwoGoodOfEight x = new TwoGoodOfEight();
+        int[] all = {3, 5, 6, 9, 10, 12, 17, 18, 20, 24, 33, 34, 36, 40, 48};
+        int[] none = {};
+        sameObject(x, "n6;g2=;", 15, 3, 3, all, all);
+        sameObject(x, "n2;", 1, 3, 3, new int[] {3}, new int[] {3});
+        sameObject(x, "b001;", 0, 3, -9, none, none);
+        sameObject(x, "n6;l03;g3=;", 20, 7, 7, new int[] {7, 11, 13, 14, 19, 21, 22, 25, 26, 28, 35, 37, 38, 41, 42, 44, 49, 50, 52, 56},
+            new int[] {7, 11, 13, 14, 19, 21, 22, 25, 26, 28, 35, 37, 38, 41, 42, 44, 49, 50, 52, 56});
+        sameObject(x, "n3;", 1, 7, 7, new int[] {7}, new int[] {7});
+        sameObject(x, "n4;l02;g3=;", 4, 3, 3, new int[] {3, 12}, new int[] {3, 12});
+        sameObject(x, "g0=;", 1, 3, 3, none, none);
+        sameObject(x, "n6;g2=;", 15, 3, 3, all, all);
     }
 }
